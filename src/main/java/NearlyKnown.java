@@ -24,7 +24,7 @@ public final class NearlyKnown {
     private static final int[] OVER = {-1, 0, 1, 1, 0};
 
     private final Text text = new Text();
-    /** All as the texts alone told it: a new text starts from here, whatever was done since. */
+    /** All as the texts alone told it, at EVENING 0: a new text starts from here, whatever was done since. */
     private final Scene told = new Scene();
     private final Scene now = new Scene();
     /** What is foretold is tried out here, so that nothing changes. */
@@ -167,7 +167,7 @@ public final class NearlyKnown {
     }
 
     public int keep(int k) {
-        if (k < 0 || k >= MOST_KEPT) {
+        if (k < 0 || k >= MOST_KEPT || kept[k] == null) {
             return UNKNOWN;
         }
         kept[k].copyFrom(now);
@@ -176,7 +176,7 @@ public final class NearlyKnown {
     }
 
     public int back(int k) {
-        if (k < 0 || k >= MOST_KEPT) {
+        if (k < 0 || k >= MOST_KEPT || kept[k] == null) {
             return UNKNOWN;
         }
         if (!isKept[k]) {
@@ -312,10 +312,7 @@ public final class NearlyKnown {
         }
         int above = weightOfPeace(company, q);
         int below = power(CERTAIN, Integer.bitCount(company));
-        int shared = commonDivisor(above, below);
-        if (shared == 0) {
-            return 0;
-        }
+        int shared = Math.max(1, commonDivisor(above, below));
         return (part == 0 ? above : below) / shared;
     }
 
@@ -458,7 +455,7 @@ public final class NearlyKnown {
         }
 
         private int kindOf(int person) {
-            return has(person) ? kinds[person] : NONE;
+            return person >= 0 && person < MOST_PEOPLE ? kinds[person] : NONE;
         }
 
         private int bearsOf(int person) {
@@ -467,7 +464,8 @@ public final class NearlyKnown {
         }
 
         private int roleTo(int person, int other) {
-            return hasPair(person, other) ? roles[person * MOST_PEOPLE + other] : NO_ROLE;
+            int at = person * MOST_PEOPLE + other;
+            return at >= 0 && at < roles.length ? roles[at] : NO_ROLE;
         }
 
         private void setRole(int person, int other, int role) {
@@ -585,7 +583,6 @@ public final class NearlyKnown {
 
         /** Does the clauses upon the draft up to the first fault: its place, or NONE. */
         private int readInto(Scene draft) {
-            draft.evening = 0;
             clauses = 0;
             stop = 0;
             for (int turn = 0; turn < MOST_CLAUSES; turn++) {
@@ -738,7 +735,7 @@ public final class NearlyKnown {
         }
 
         private void remember(Scene scene) {
-            if (next < 0 || next >= MOST_UNDONE) {
+            if (next < 0 || next >= MOST_UNDONE || scenes[next] == null) {
                 return;
             }
             scenes[next].copyFrom(scene);
@@ -747,12 +744,13 @@ public final class NearlyKnown {
         }
 
         private boolean returnTo(Scene scene) {
-            if (size <= 0 || next < 0 || next >= MOST_UNDONE) {
+            int latest = (next + MOST_UNDONE - 1) % MOST_UNDONE;
+            if (size <= 0 || latest < 0 || scenes[latest] == null) {
                 return false;
             }
-            next = (next + MOST_UNDONE - 1) % MOST_UNDONE;
+            scene.copyFrom(scenes[latest]);
+            next = latest;
             size--;
-            scene.copyFrom(scenes[next]);
             return true;
         }
     }

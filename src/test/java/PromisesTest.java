@@ -121,6 +121,10 @@ public final class PromisesTest {
         faultOf("plain;shy", "as 0 0 1", 5);
         faultOf("plain;shy", "as 2 0 1", 3);
         faultOf("plain;shy", "as a 0 1", 3);
+        faultOf("plain;shy", "as 0", 4);
+        faultOf("plain;shy", "as 0;room 1", 4);
+        faultOf("plain;shy", "as ;room 1", 3);
+        faultOf("plain;shy", "room ;room 1", 5);
         faultOf("plain;shy", "as 0 1", 6);
         faultOf("plain;shy", "as 0 1;", 6);
         faultOf("plain;shy", "as 0 1 1 1", 9);
@@ -150,7 +154,23 @@ public final class PromisesTest {
         faultOf("", fourteen + ";season", fourteen.length());
         faultOf("", fourteen + ";", fourteen.length());
         faultOf("", fourteen + " x", fourteen.length() + 1);
+        // The signs next to the small letters and the digits are tokens by themselves.
+        for (String sign : new String[] {"`", "{", "/", ":", "\0", "\u00ff"}) {
+            faultOf("plain", "shy" + sign, 3);
+            faultOf("plain", "room 1" + sign, 6);
+        }
+        for (String letter : new String[] {"a", "z", "y"}) {
+            faultOf("plain", "shy" + letter, 0);
+            faultOf("plain", "room " + letter, 5);
+            faultOf("plain", "room 1" + letter, 6);
+        }
+        faultOf("", "zhy", 0);
+        faultOf("", "qs", 0);
         NearlyKnown x = told("plain");
+        write(x, "shy;host;x");
+        dueAll("4 what was read is not told", 9, x.fault(), x.fault());
+        due("4 nor done", x.season(), NOT);
+        x.erase();
         write(x, "as 0 1 1");
         dueAll("4 asked twice", 5, x.fault(), x.fault());
         due("4 changes nothing", x.count(0), 1);
@@ -286,6 +306,21 @@ public final class PromisesTest {
         x = told("plain;plain;plain;as 0 1 3;room 5");
         due("12 who told is not there", x.evening(), 0);
         due("12 so nothing is learnt", x.to(0, 2), NONE);
+        x = told("plain;plain;plain;plain;as 0 1 7;as 1 0 1;room 7");
+        x.evening();
+        dueAll("12 who is there learns it", 7, x.to(0, 1), x.to(0, 2));
+        dueAll("12 who is not there does not", NONE, x.to(0, 3), x.to(1, 3), x.to(3, 0), x.to(2, 0));
+        // Beyond the calls for which an object is promised, but nowhere nearer can it be reached.
+        x = told("plain");
+        for (int i = 0; i < 998; i++) {
+            x.evening();
+        }
+        due("12 evening 998", x.count(1), 998);
+        due("12 the last one", x.evening(), 0);
+        due("12 full", x.evening(), FULL);
+        due("12 evening 999", x.count(1), 999);
+        due("12 what was refused is not done", x.undo(), 7);
+        due("12 evening 998 again", x.count(1), 998);
     }
 
     private static void promise13() {
@@ -377,6 +412,9 @@ public final class PromisesTest {
         due("17 apart", x.rooms(15, 2), 1);
         due("17 apart, too", x.rooms(15, 3), 1);
         due("17 not of it", x.rooms(12, 0), NONE);
+        due("17 he is missing between", x.rooms(13, NONE), 2);
+        due("17 the last of these", x.rooms(13, 3), 1);
+        due("17 the one behind who is missing", x.rooms(10, 1), 0);
         due("17 of two", x.rooms(12, 3), 0);
         dueAll("17 unknown", UNKNOWN, x.rooms(16, NONE), x.rooms(-1, 0), x.rooms(15, 4), x.rooms(15, -2), x.rooms(0, HIGH));
         // Were each put into the least room that takes him, these would be three.
@@ -392,6 +430,7 @@ public final class PromisesTest {
         NearlyKnown x = told("plain;plain;plain;plain;as 0 1 1;as 0 2 2;as 3 1 1;as 3 2 2");
         due("18 nobody", x.largest(0), 0);
         due("18 one", x.largest(8), 8);
+        due("18 the first one", x.largest(1), 1);
         due("18 of two the least", x.largest(7), 3);
         due("18 all", x.largest(15), 11);
         x.contradict(0, 1);
