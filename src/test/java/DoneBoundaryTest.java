@@ -580,6 +580,16 @@ public final class DoneBoundaryTest extends Boundary {
         due(0, x.count(5));
     }
 
+    static void promise15TheTextThatIsBeingWrittenStays() {
+        // The document does not say so in words: NOTES.md tells why it is read like this.
+        NearlyKnown x = write(told("plain"), "sh");
+        x.keep(0);
+        x.write('y');
+        x.back(0);
+        due(3, x.count(7));
+        due(NONE, x.fault());
+    }
+
     static void promise15ItStaysKept() {
         NearlyKnown x = told("plain");
         x.comes(0, 1);

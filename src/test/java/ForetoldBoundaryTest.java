@@ -138,6 +138,15 @@ public final class ForetoldBoundaryTest extends Boundary {
         }
     }
 
+    static void promise17NoCompanyHangsOnTheOneAskedAhead() {
+        NearlyKnown x = strangers();
+        due(3, x.rooms(63, NONE));
+        due(1, x.rooms(48, NONE), x.rooms(12, NONE), x.rooms(3, NONE));
+        due(NONE, x.rooms(48, 0), x.rooms(12, 4));
+        due(0, x.rooms(48, 5), x.rooms(0, NONE));
+        due(2, x.rooms(63, 5), x.rooms(15, NONE));
+    }
+
     static void promise17ACompanyWithNoSuchPersonIsUnknown() {
         unknownSets((x, company) -> x.rooms(company, NONE));
         unknownSets((x, company) -> x.rooms(company, 0));

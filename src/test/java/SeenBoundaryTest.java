@@ -157,6 +157,17 @@ public final class SeenBoundaryTest extends Boundary {
         due(0, x.was(0, 1));
     }
 
+    static void promise25TheFirstAndTheSixthPersonMayBeSeen() {
+        NearlyKnown x = told(SIX);
+        x.seen(33, 0, 1);
+        x.seen(63, 5, 7);
+        due(0, x.was(0, 5), x.was(5, 0));
+        x.introduce(5, 4, 7);
+        due(1 << 1, x.was(0, 5));
+        x.introduce(0, 5, 1);
+        due(1 | 1 << 7, x.was(5, 0));
+    }
+
     static void promise25NoneBesidesIsSeen() {
         NearlyKnown x = told("host;plain;plain;as 0 1 1;as 0 2 2");
         x.seen(7, 0, 1);
@@ -293,7 +304,7 @@ public final class SeenBoundaryTest extends Boundary {
 
     static void promise27TheEveningIsTold() {
         NearlyKnown x = told("plain");
-        for (int n = 0; n < 400; n++) {
+        for (int n = 0; n < 250; n++) {
             due(n, x.count(1));
             x.evening();
         }

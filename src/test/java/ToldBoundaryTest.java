@@ -268,6 +268,15 @@ public final class ToldBoundaryTest extends Boundary {
         }
     }
 
+    static void promise4LettersAndDigitsAreTokensOfTheirOwn() {
+        fault(3, TWO, "shy1");
+        fault(0, TWO, "1shy");
+        fault(6, TWO, "room 0shy");
+        fault(4, TWO, "as 0as 1 1");
+        fault(6, TWO, "room 0a0");
+        fault(NONE, TWO, "as0 1 1;room3");
+    }
+
     static void promise4BlanksMayStandBetweenTokens() {
         fault(NONE, TWO, "  shy  ;  as   0   1   1  ;room  1 ");
     }
