@@ -351,6 +351,15 @@ public final class ForetoldBoundaryTest extends Boundary {
         due(62, x.learn(0, 3, 1));
     }
 
+    static void promise21OfSixEachIsAnotherRoleToEach() {
+        NearlyKnown x = strangers();
+        for (int p = 0; p < 6; p++) {
+            for (int role = 1; role <= 7; role++) {
+                due(role == 7 || role - 1 == p ? 0 : 1 << role - 1, x.learn(p, role, 0), x.learn(p, role, 1));
+            }
+        }
+    }
+
     static void promise21ShyOnesLeaveInItToo() {
         // 3 must be just one only when the shy 0 has left, and is told to 4 an evening later.
         NearlyKnown x = told("shy;plain;plain;smooth;plain;as 0 1 1;as 0 2 2;as 3 0 1;as 3 1 2;room 31");

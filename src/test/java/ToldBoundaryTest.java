@@ -128,6 +128,19 @@ public final class ToldBoundaryTest extends Boundary {
         due(1, x.count(0));
     }
 
+    static void promise3WhatIsErasedIsNotReadBehindTheEnd() {
+        String[][] texts = {{"room 1", "room "}, {"as 0 1 1", "as 0 1 "}, {"as 0 1 1", "as 0 "}, {"as 0 1 1", "as "},
+            {"shy;shy", "shy;"}, {"shyx", "shy"}, {"shy x", "shy "}, {"shy;x", "shy"}, {"room 111", "room 1"}};
+        for (String[] both : texts) {
+            NearlyKnown x = write(told(TWO), both[0]);
+            x.erase();
+            int length = both[1].length();
+            boolean whole = both[1].trim().equals("shy") || both[1].equals("room 1");
+            due(whole ? NONE : length, write(x, both[1]).fault());
+            due(whole ? 1 : NOT, x.season());
+        }
+    }
+
     static void promise3AllButTheTextStays() {
         changesNothing(() -> {
             NearlyKnown x = busy();
