@@ -101,9 +101,31 @@ public final class LanguageTest {
         }
     }
 
+    /** Static fields are final, a class has some twenty fields at most, and there are some twelve classes. */
+    private static void lookAtFields(Class<?> type) {
+        int fields = 0;
+        for (Field f : type.getDeclaredFields()) {
+            boolean ofClass = Modifier.isStatic(f.getModifiers());
+            if (ofClass && !Modifier.isFinal(f.getModifiers())) {
+                fail("a static field that is not final: " + f);
+            }
+            fields += ofClass ? 0 : 1;
+        }
+        if (fields > 20) {
+            fail(fields + " fields in " + type);
+        }
+        if (type.getDeclaredClasses().length > 11) {
+            fail("more than twelve classes");
+        }
+        for (Class<?> inside : type.getDeclaredClasses()) {
+            lookAtFields(inside);
+        }
+    }
+
     public static void main(String[] args) throws Exception {
         lookAtSource(Files.readString(Path.of("src/main/java/NearlyKnown.java")));
         lookAtFace();
+        lookAtFields(NearlyKnown.class);
         System.out.println("language: " + wrong + " faults");
         if (wrong != 0) {
             System.exit(1);
